@@ -70,6 +70,10 @@ final class GroundTests {
         CHECK.due("p3 from a wall", x.line(1, 2), 99);
         CHECK.due("p3 to a wall", x.line(2, 1), 99);
         CHECK.due("p3 wall to wall", x.line(1, 6), 99);
+        x.yard(1, 0);
+        x.yard(0, 5);
+        CHECK.due("p3 a wall at spot 0", x.line(0, 1), 99);
+        CHECK.due("p3 none on walls", x.line(1, 12), 3);
         // A long way: walls leave one path that goes to and fro.
         FreeCity y = new FreeCity();
         for (int column = 0; column < 5; column++) {
@@ -300,6 +304,8 @@ final class GroundTests {
         CHECK.due("p9 all of one", x.unlike(1, 2, 3, 0), 450);
         x.rule(0, 0, true);
         CHECK.due("p9 rulings don't matter", x.unlike(1, 2, 3, 1), 23);
+        Check.textOf(x, 2, 4, "let h>21;bar s=0&p=0&m=0&h<23");
+        CHECK.due("p9 least, not where both let", x.unlike(1, 2, 4, 1), 24 + 22);
         CHECK.due("p9 a day earlier", x.unlike(0, 1, 2, 0), 1);
         CHECK.due("p9 tongue", x.unlike(3, 1, 0, 0), -1);
         CHECK.due("p9 tongue", x.unlike(0, 3, 0, 0), -1);

@@ -165,6 +165,8 @@ final class ImageTests {
         CHECK.due("p48 part", x.tariff(1, 2, 1), 1);
         CHECK.due("p48 term", x.term(0, 1), 30);
         CHECK.due("p48 step", x.term(1, 1), 7);
+        x.text(2, 0);
+        Check.feedAll(x, "bar s=2;x");
         x.undo();
         CHECK.due("p6 the tape came back as it was", x.text(2, 0), 2);
         CHECK.due("p8 and it is the text", x.why(2, Check.actOf(0, 0, 1, 0), 0), 200);

@@ -57,6 +57,11 @@ final class NightTests {
         CHECK.due("p33 a wall ahead of full", x.seen(7, 3, 12), -3);
         CHECK.due("p33 no new hour", x.seen(7, 2, 11), 12);
         CHECK.due("p33 another person", x.seen(6, 2, 12), 1);
+        for (int hour = 0; hour < 12; hour++) {
+            CHECK.due("p33 at spot 0", x.seen(0, 0, hour), hour + 1);
+        }
+        CHECK.due("p33 at spot 0 again", x.seen(0, 0, 5), 12);
+        CHECK.due("p33 at spot 0 in one hour more", x.seen(0, 0, 12), -4);
     }
 
     private static void who() {
@@ -170,5 +175,15 @@ final class NightTests {
         x.seen(2, 4, 12);
         CHECK.due("p36 none", x.sure(1), -5);
         CHECK.due("p36 still", x.sure(0), 6);
+        FreeCity y = corners();
+        y.door(0, 12, 12);
+        for (int person = 1; person < 8; person++) {
+            y.seen(person, 15, 11);
+        }
+        CHECK.due("p36 the first person", y.sure(0), 0);
+        y.seen(0, 15, 12);
+        y.door(29, 14, 15);
+        CHECK.due("p36 none", y.sure(0), -5);
+        CHECK.due("p36 all", y.sure(1), -5);
     }
 }

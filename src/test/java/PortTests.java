@@ -202,6 +202,7 @@ final class PortTests {
         parted(5, new int[] {3, 3, 2}, new int[] {2, 2, 1});
         // 9 by 2 : 4 : 4 is 1 8/10, 3 6/10, 3 6/10: of the like ones the lesser.
         parted(9, new int[] {2, 4, 4}, new int[] {2, 4, 3});
+        parted(100, new int[] {0, 1, 0}, new int[] {0, 100, 0});
         parted(1, new int[] {1, 99, 98}, new int[] {0, 1, 0});
     }
 
