@@ -25,6 +25,8 @@ final class AnswerEdgesTests {
         bestByNone();
         bestFewest();
         bestLeast();
+        bestOnToday();
+        bestOfThoseStanding();
         bestOfSix();
         triedBounds();
         triedFault();
@@ -298,6 +300,36 @@ final class AnswerEdgesTests {
         CHECK.due("p45 5 ahead of 6", x.best(), 5);
         x.ask(3, 0, 1 << 4, 0);
         CHECK.due("p45 still", x.best(), 5);
+    }
+
+    private static void bestOnToday() {
+        FreeCity x = new FreeCity();
+        Check.textOf(x, 0, 1, "let h<24");
+        Check.textOf(x, 2, 1, "let h<24");
+        Check.textOf(x, 2, 2, "bar h<24");
+        x.want(7);
+        CHECK.due("p45 LET on the DAY behind TODAY", x.best(), -5);
+        x.day(1);
+        CHECK.due("p45 LET on TODAY", x.best(), 0);
+        x.day(1);
+        CHECK.due("p45 LET on the DAY ahead of TODAY", x.best(), -5);
+    }
+
+    private static void bestOfThoseStanding() {
+        FreeCity x = ruled(6);
+        x.ask(0, 0, 1, 6);
+        x.ask(1, 0, 8, 48);
+        CHECK.due("p45 one falls by each LET, two by each not", x.best(), 3);
+        x.appeal(1, 0, 0);
+        x.appeal(2, 0, 0);
+        x.appeal(4, 0, 51);
+        x.appeal(5, 0, 51);
+        CHECK.due("p45 HELD UP ones don't count", x.best(), 0);
+        x.day(8);
+        CHECK.due("p45 heard, and they stand", x.best(), 1);
+        x.day(14);
+        CHECK.due("p45 FALLEN ones don't count", x.best(), 1);
+        CHECK.due("p44 nor there", x.judge(1, 1), 1);
     }
 
     private static void bestOfSix() {

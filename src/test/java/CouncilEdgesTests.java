@@ -23,6 +23,7 @@ final class CouncilEdgesTests {
         asTheDayGoesBy();
         otherSteps();
         fallenMeanwhile();
+        nothingToHear();
         lateBounds();
         lateAnswers();
         CHECK.end();
@@ -301,6 +302,20 @@ final class CouncilEdgesTests {
         CHECK.due("p17 whether it overruled: 50", x.late(3, 2), 0);
         x.day(7);
         CHECK.due("p17 whether it overruled: 51", x.late(4, 2), 1);
+    }
+
+    private static void nothingToHear() {
+        FreeCity x = ruled(49);
+        x.appeal(48, 1, 51);
+        CHECK.due("t3 one of fifty RIGHTS", x.late(49, 0), 0);
+        CHECK.due("p4 the first DAY", x.day(1), 1);
+        CHECK.due("t3 the fiftieth is heard", x.late(49, 2), 1);
+        CHECK.due("p4 no APPEAL is left", x.day(50), 51);
+        CHECK.due("p17 heard once", x.late(49, 1), 0);
+        CHECK.due("t3 none but that one is FALLEN", x.fall(47, 2) + x.fall(48, 2), 1);
+        FreeCity y = ruled(50);
+        CHECK.due("p4 fifty RULINGS, no APPEAL", y.day(50), 50);
+        CHECK.due("p4 no RIGHTS at all", new FreeCity().day(50), 50);
     }
 
     private static void lateBounds() {

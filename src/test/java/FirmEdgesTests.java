@@ -16,6 +16,7 @@ final class FirmEdgesTests {
         leftToTheLast();
         leftIsNone();
         canNotClose();
+        theFortieth();
         CHECK.end();
     }
 
@@ -167,5 +168,23 @@ final class FirmEdgesTests {
             CHECK.due("t4 LEFT of QUOTA " + quotas[i], x.left(1, 0), quotas[i] - 10);
         }
         CHECK.due("p31 of the other SIDE the first", x.left(2, 1), 0);
+    }
+
+    private static void theFortieth() {
+        FreeCity x = new FreeCity();
+        x.firm(2, -1);
+        for (int i = 0; i < 40; i++) {
+            x.used(0, 250 - i % 2);
+        }
+        CHECK.due("t4 USED by all forty", x.left(0, 0), 9980);
+        x.quota(5, 2, 9980);
+        CHECK.due("p31 the QUOTA is just USED by forty", x.left(2, 2), -5);
+        CHECK.due("t4 nothing LEFT by forty", x.left(1, 2), 0);
+        x.quota(5, 2, 9979);
+        CHECK.due("p31 the fortieth can't close", x.left(2, 2), 39);
+        x.quota(5, 2, 249);
+        CHECK.due("p31 the first can't close", x.left(2, 2), 0);
+        x.quota(5, 2, 250);
+        CHECK.due("p31 the second can't close", x.left(2, 2), 1);
     }
 }

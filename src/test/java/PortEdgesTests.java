@@ -304,6 +304,8 @@ final class PortEdgesTests {
             parted(3, parts, 1, 1, 1);
             parted(4, parts, 2, 1, 1);
             parted(5, parts, 2, 2, 1);
+            parted(1000, parts, 334, 333, 333);
+            parted(1001, parts, 334, 334, 333);
         }
     }
 
@@ -318,6 +320,10 @@ final class PortEdgesTests {
         parted(50, new int[] {1, 1, 99}, 1, 0, 49);
         // 10 by 4 : 2 : 1 is 5 5/7, 2 6/7, 1 3/7: one each to the second and the first.
         parted(10, new int[] {4, 2, 1}, 6, 3, 1);
+        // 10 by 3 : 3 : 1 is 4 2/7, 4 2/7, 1 3/7: one more to the third.
+        parted(10, new int[] {3, 3, 1}, 4, 4, 2);
+        // 9 by 1 : 3 : 3 is 1 2/7, 3 6/7, 3 6/7: one more to each but the first.
+        parted(9, new int[] {1, 3, 3}, 1, 4, 4);
         // 8 by 1 : 3 : 1 is 1 3/5, 4 4/5, 1 3/5: one to the second, one to the least of the others.
         parted(8, new int[] {1, 3, 1}, 2, 5, 1);
     }

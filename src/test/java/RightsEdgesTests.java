@@ -23,9 +23,11 @@ final class RightsEdgesTests {
         fallHowMany();
         heldUpThroughOthers();
         heldUpByTwo();
+        leaningToldLater();
         againBounds();
         ringSizes();
         ringRows();
+        ringOfFallenOnes();
         actBounds();
         actWraps();
         whoseBounds();
@@ -268,6 +270,28 @@ final class RightsEdgesTests {
         CHECK.due("t3 never HELD UP", x.fall(0, 1), 0);
     }
 
+    /** What a ruling leans on may be told when that has long fallen, or is held up. */
+    private static void leaningToldLater() {
+        FreeCity x = ruled(6);
+        x.lean(2, 1);
+        x.appeal(0, 0, 51);
+        x.day(1);
+        x.appeal(3, 0, 0);
+        CHECK.due("t3 STANDING, and that which LEANS on it", x.fall(1, 2) + x.fall(2, 2), 2);
+        CHECK.due("p13 on a FALLEN one", x.lean(1, 0), 1);
+        CHECK.due("t3 FALLEN is each that LEANS on a FALLEN one", x.fall(1, 0), 1);
+        CHECK.due("t3 and each that LEANS on that", x.fall(2, 0), 1);
+        CHECK.due("p13 on one that is HELD UP", x.lean(4, 3), 1);
+        CHECK.due("t3 HELD UP with it", x.fall(4, 1), 1);
+        CHECK.due("t3 not FALLEN", x.fall(4, 0), 0);
+        CHECK.due("p13 one that is HELD UP LEANS on another", x.lean(3, 5), 1);
+        CHECK.due("t3 that isn't HELD UP by it", x.fall(5, 1), 0);
+        CHECK.due("t3 that STANDS", x.fall(5, 2), 1);
+        CHECK.due("p13 a FALLEN one LEANS on another", x.lean(0, 5), 1);
+        CHECK.due("t3 that STANDS still", x.fall(5, 2), 1);
+        CHECK.due("p16 of those that aren't FALLEN: 5, 3 and 4", x.fall(5, 3), 3);
+    }
+
     private static void againBounds() {
         Edges three = new Edges(CHECK, () -> {
             FreeCity x = row(true, 3);
@@ -331,6 +355,18 @@ final class RightsEdgesTests {
         ring(7, "ab bc cd de ea af fg ga", 0, 5, 6);
         // The longer one has the lesser rulings.
         ring(8, "ab bc ca gh hg", 6, 7);
+    }
+
+    private static void ringOfFallenOnes() {
+        FreeCity x = row(true, 4);
+        x.lean(1, 0);
+        x.lean(3, 2);
+        x.appeal(0, 0, 51);
+        x.day(1);
+        CHECK.due("t3 both are FALLEN", x.fall(0, 0) + x.fall(1, 0), 2);
+        CHECK.due("t3 RULINGS that LEAN on one another, FALLEN or not", x.again(-1), 2);
+        CHECK.due("t3 the least row", x.again(0), 0);
+        CHECK.due("t3 the least row", x.again(1), 1);
     }
 
     private static void actBounds() {

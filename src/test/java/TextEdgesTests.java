@@ -26,9 +26,11 @@ final class TextEdgesTests {
         twoTonguesAtLeast();
         rulingAheadOfTexts();
         rulingThatStandsNow();
+        rulingOnEachDay();
         forceBounds();
         whyBounds();
         whyAnswers();
+        whyByHours();
         unlikeBounds();
         unlikeOrder();
         unlikeActs();
@@ -427,6 +429,25 @@ final class TextEdgesTests {
         CHECK.due("t2 it stands again", x.why(3, about, 5), 10000);
     }
 
+    /** A ruling that stands now tells of the days ahead of its own, too. */
+    private static void rulingOnEachDay() {
+        FreeCity x = letByAll();
+        x.day(10);
+        x.rule(14, 2, false);
+        x.rule(15, 2, true);
+        int barred = Check.actOf(1, 14, 2, 23);
+        int let = Check.actOf(1, 15, 2, 0);
+        for (int day : new int[] {0, 4, 5, 9, 10, 11, 999}) {
+            CHECK.due("t2 STANDING now, on DAY " + day, x.force(3, barred, day), 0);
+            CHECK.due("t2 STANDING now, on DAY " + day, x.force(3, let, day), 1);
+            CHECK.due("p8 STANDING now, on DAY " + day, x.why(3, let, day), 10001);
+        }
+        x.appeal(1, 1, 51);
+        x.day(50);
+        CHECK.due("t2 FALLEN now, on a DAY on which it stood", x.force(3, let, 4), 0);
+        CHECK.due("p8 FALLEN now, on a DAY on which it stood", x.why(3, let, 10), -5);
+    }
+
     private static void forceBounds() {
         LIVELY.bounds("p7 force's tongue", 0, 3, -1, (x, n) -> x.force(n, 0, 0));
         LIVELY.bounds("p7 force's act by a TONGUE", 0, 10799, -2, (x, n) -> x.force(0, n, 0));
@@ -476,6 +497,17 @@ final class TextEdgesTests {
         CHECK.due("p8 the last RULING", x.why(3, Check.actOf(2, 1, 0, 23), 0), 10049);
         CHECK.due("p8 the last RULING but one", x.why(3, 0, 999), 10048);
         CHECK.due("p8 none", x.why(3, Check.actOf(0, 2, 0, 0), 0), -5);
+    }
+
+    private static void whyByHours() {
+        FreeCity x = new FreeCity();
+        Check.textOf(x, 2, 0, "let h<1;bar h>22;let h>0&h<2;bar s=1&h<2");
+        int[] due = {0, 2, -5, -5, 1};
+        int[] hours = {0, 1, 2, 22, 23};
+        for (int i = 0; i < hours.length; i++) {
+            CHECK.due("p8 in HOUR " + hours[i], x.why(2, Check.actOf(0, 29, 4, hours[i]), 0), due[i]);
+            CHECK.due("p8 in HOUR " + hours[i], x.why(2, Check.actOf(1, 0, 0, hours[i]), 0), i < 2 ? 3 : due[i]);
+        }
     }
 
     private static void unlikeBounds() {
