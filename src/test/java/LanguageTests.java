@@ -1,11 +1,17 @@
+import java.lang.reflect.Field;
+import java.lang.reflect.Modifier;
 import java.nio.file.Files;
 import java.nio.file.Path;
+import java.util.ArrayList;
+import java.util.List;
+import java.util.Set;
 import java.util.regex.Matcher;
 import java.util.regex.Pattern;
 
-/** Those rules of ../shared/LANGUAGE.md that can be seen by reading the source. */
+/** Those rules of ../shared/LANGUAGE.md that can be seen in the source and in the classes made of it. */
 final class LanguageTests {
     private static final Check CHECK = new Check("LanguageTests");
+    private static final Set<Class<?>> LISTS = Set.of(List.class, ArrayList.class, StringBuilder.class);
     private static final String[] FORBIDDEN = {
         "\\b(throw|throws|try|catch|finally|synchronized|assert|native|volatile|package|protected|Object|var)\\b",
         "->", "::", "\\w+Exact\\b", "\\b(hashCode|toString|getClass|System\\.(?!arraycopy\\b)\\w+|Thread|Random)\\b",
@@ -34,7 +40,31 @@ final class LanguageTests {
         }
         CHECK.so("twelve classes at most: " + classes, classes <= 12);
         methods(code);
+        fields(FreeCity.class);
+        for (Class<?> inside : FreeCity.class.getDeclaredClasses()) {
+            fields(inside);
+        }
         CHECK.end();
+    }
+
+    private static void fields(Class<?> type) {
+        int own = 0;
+        for (Field field : type.getDeclaredFields()) {
+            Class<?> held = field.getType();
+            while (held.isArray()) {
+                held = held.getComponentType();
+            }
+            boolean plain = held.isPrimitive() || held == String.class;
+            if (Modifier.isStatic(field.getModifiers())) {
+                boolean constant = Modifier.isFinal(field.getModifiers()) && (plain || held.isEnum());
+                CHECK.so(field + " is a constant", constant);
+            } else {
+                own++;
+                boolean inside = held.getEnclosingClass() == FreeCity.class;
+                CHECK.so(field + " is of a type of rule 3", plain || inside || LISTS.contains(held));
+            }
+        }
+        CHECK.so(type + " has " + own + " fields", own <= 20);
     }
 
     private static void methods(String code) {
